@@ -974,6 +974,8 @@ public final class Promises {
         x.goBack(1);
         due("what is thought and the book stay", x.told(10) + x.told(11) + x.told(4), 3);
         x = new SingleCopy();
+        due("a new object's image", x.goBack(0), NOT);
+        due("a new object's other image", x.goBack(1), NOT);
         x.keep(0);
         due("no opinions", x.goBack(0), 1);
         due("none then, too", Arrays.asList(x.told(1), x.told(9)).hashCode(), Arrays.asList(0, NONE).hashCode());
