@@ -32,7 +32,46 @@ public final class AgainstModel {
                 calls += used;
             }
         }
+        calls += everyLetterEverywhere();
         System.out.println(calls + " calls answered as by the model");
+    }
+
+    /** A text with each of its letters replaced by each letter, then with each letter put in, then cut off there. */
+    private static long everyLetterEverywhere() {
+        String text = " r2 0, 12,020;f1 18 9 7 3;h 15; f2 4 2 20 0 ; ";
+        long calls = 0;
+        for (int i = 0; i <= text.length(); i++) {
+            for (int letter = 0; letter < 256; letter++) {
+                String ahead = text.substring(0, i) + (char) letter;
+                calls += readAlike(ahead + text.substring(i));
+                calls += readAlike(ahead + (i < text.length() ? text.substring(i + 1) : ""));
+                calls += readAlike(ahead);
+            }
+        }
+        return calls;
+    }
+
+    private static int readAlike(String text) {
+        SingleCopy x = new SingleCopy();
+        Model y = new Model();
+        List<String> log = new ArrayList<>(List.of("text " + text));
+        for (int i = 0; i < text.length(); i++) {
+            due(log, "feed", x.feed(text.charAt(i)), y.feed(text.charAt(i)));
+        }
+        due(log, "city()", x.city(), y.city());
+        due(log, "fault()", x.fault(), y.fault());
+        for (int what = 0; what <= 12; what++) {
+            due(log, "told " + what, x.told(what), y.told(what));
+        }
+        for (int f = 0; f < 3; f++) {
+            for (int what = 0; what <= 6; what++) {
+                due(log, "fact " + f + " " + what, x.fact(f, what), y.fact(f, what));
+            }
+        }
+        for (int o = 0; o < 5; o++) {
+            due(log, "belief " + o, x.belief(o), y.belief(o));
+        }
+        return text.length() + 41;
     }
 
     private static void due(List<String> log, String call, int got, int want) {

@@ -1,22 +1,12 @@
 import java.util.Arrays;
 
 /** For each promise of the document its ordinary answers, its edges and its refusals, in their order. */
-public final class Promises {
-    private static final int NONE = -1;
-    private static final int UNKNOWN = -1000000001;
-    private static final int OUTSIDE = -1000000002;
-    private static final int NOT = -1000000003;
-    private static final int FULL = -1000000004;
+public final class Promises extends Checks {
     private static final int[] EXTREMES = {Integer.MIN_VALUE, UNKNOWN, -100, -5, 1 << 30, Integer.MAX_VALUE};
 
-    /** Three opinions, sheets of two facts; facts 0, 1, 2, 5 are so, 3 and 4 cost 3 and 4. */
-    private static final String PAPER = "r2 8,12,3;f0 14 9 0 0;f1 4 0 10 0;f2 18 0 12 0;f0 2 9 0 3;f2 15 1 5 4;f1 17 9 0 0;h11;";
     /** A chain: each fact needs the one ahead of it to have been believed. */
     private static final String CHAIN = "r3 0,0,0,0,20;f0 18 9 0 0;f1 18 0 9 0;f2 18 1 9 0;f3 18 2 9 0;"
         + "f4 0 3 9 0;f4 0 9 0 9;f3 18 9 0 9;f0 0 9 0 1;h9;";
-
-    private static int promise = 0;
-    private static int wrong = 0;
 
     public static void main(String[] args) {
         newObject();
@@ -49,53 +39,7 @@ public final class Promises {
         seed();
         keep();
         goBack();
-        System.out.println(wrong == 0 ? "all promises hold" : wrong + " answers are not as due");
-        if (wrong != 0) {
-            System.exit(1);
-        }
-    }
-
-    private static void due(String what, int got, int want) {
-        if (got != want) {
-            wrong++;
-            System.out.println("promise " + promise + ": " + what + " answered " + got + ", due is " + want);
-        }
-    }
-
-    private static void tell(SingleCopy x, String text) {
-        for (int i = 0; i < text.length(); i++) {
-            x.feed(text.charAt(i));
-        }
-    }
-
-    private static int read(SingleCopy x, String text) {
-        tell(x, text);
-        return x.city();
-    }
-
-    private static SingleCopy of(String text) {
-        SingleCopy x = new SingleCopy();
-        due("city of " + text, Math.min(0, read(x, text)), 0);
-        return x;
-    }
-
-    /** All that can be looked at, to tell whether a call changed anything. */
-    private static String look(SingleCopy x) {
-        StringBuilder all = new StringBuilder();
-        for (int what = 0; what <= 12; what++) {
-            all.append(x.told(what)).append(' ');
-        }
-        for (int o = 0; o < 5; o++) {
-            all.append(x.belief(o)).append(' ');
-        }
-        for (int f = 0; f < 8; f++) {
-            for (int what = 0; what <= 6; what++) {
-                all.append(x.fact(f, what)).append(' ');
-            }
-        }
-        int seed = x.seed(0);
-        x.seed(seed);
-        return all.append(seed).append(' ').append(x.judge()).append(' ').append(x.leftOut(-1)).toString();
+        end("all promises hold");
     }
 
     private static void same(String what, SingleCopy x, String before) {
@@ -103,7 +47,7 @@ public final class Promises {
     }
 
     private static void newObject() {
-        promise = 1;
+        heading = "promise 1";
         SingleCopy x = new SingleCopy();
         int[] tolds = {0, 0, 0, 10, 0, 0, 0, 0, 0, NONE, 0, 0, 0};
         for (int what = 0; what < tolds.length; what++) {
@@ -121,7 +65,7 @@ public final class Promises {
     }
 
     private static void feed() {
-        promise = 2;
+        heading = "promise 2";
         SingleCopy x = new SingleCopy();
         due("feed(-1)", x.feed(-1), OUTSIDE);
         due("feed(256)", x.feed(256), OUTSIDE);
@@ -141,7 +85,7 @@ public final class Promises {
     }
 
     private static void city() {
-        promise = 3;
+        heading = "promise 3";
         SingleCopy x = of(PAPER);
         due("facts", x.told(2), 6);
         x.seed(77);
@@ -185,7 +129,7 @@ public final class Promises {
     }
 
     private static void cityFaults() {
-        promise = 3;
+        heading = "promise 3";
         String[] cannotStand = {"f", "^", "h", "^", " f0 9 9 0 0;", " ^", "R1 1;", "^", ";", "^", "1", "^", "r", " ^", "r ", "  ^",
             "r;", " ^", "r,1 1;", " ^", "r1", "  ^", "r1 ", "   ^", "r1;", "  ^", "r1,1;", "  ^", "r1 1", "    ^", "r1 1,", "     ^",
             "r1 1,;", "     ^", "r1 1 1;", "     ^", "r1 1,1,1,1,1,1;", "            ^", "r1 1,1,1,1,1 , 1;", "             ^",
@@ -218,7 +162,7 @@ public final class Promises {
     }
 
     private static void fault() {
-        promise = 4;
+        heading = "promise 4";
         SingleCopy x = new SingleCopy();
         due("ahead of any city()", x.fault(), NONE);
         read(x, "r1 1;x");
@@ -235,7 +179,7 @@ public final class Promises {
     }
 
     private static void told() {
-        promise = 5;
+        heading = "promise 5";
         SingleCopy x = of(PAPER);
         tell(x, "r1");
         x.night(1);
@@ -259,7 +203,7 @@ public final class Promises {
     }
 
     private static void belief() {
-        promise = 6;
+        heading = "promise 6";
         SingleCopy x = of(PAPER);
         due("belief(0)", x.belief(0), 8);
         due("belief(1)", x.belief(1), 12);
@@ -274,7 +218,7 @@ public final class Promises {
     }
 
     private static void fact() {
-        promise = 7;
+        heading = "promise 7";
         SingleCopy x = of(PAPER);
         int[][] facts = {{0, 14, NONE, 0, 0, 1, 0}, {1, 4, 0, 10, 0, 1, 0}, {2, 18, 0, 12, 0, 1, 0},
             {0, 2, NONE, 0, 3, 0, 0}, {2, 15, 1, 5, 4, 0, 0}, {1, 17, NONE, 0, 0, 1, 0}};
@@ -302,7 +246,7 @@ public final class Promises {
     }
 
     private static void night() {
-        promise = 8;
+        heading = "promise 8";
         SingleCopy x = of(PAPER);
         due("night(3)", x.night(3), 0);
         due("moved up", x.belief(0), 13);
@@ -329,14 +273,6 @@ public final class Promises {
         due("no facts", of("r1 1;").night(0), NONE);
         bounds();
         shows();
-        x = of("r1 0;");
-        for (int i = 0; i < 1501; i++) {
-            x.drift(60);
-        }
-        due("nights above 90000", x.told(5), 90060);
-        due("full", x.night(0), FULL);
-        due("not ahead of full", new SingleCopy().night(0), NOT);
-        due("unknown ahead of full", x.night(1), UNKNOWN);
     }
 
     private static void bounds() {
@@ -373,7 +309,7 @@ public final class Promises {
     }
 
     private static void meet() {
-        promise = 9;
+        heading = "promise 9";
         SingleCopy x = of(PAPER);
         due("(16 + 0) / 3", x.meet(0, 0), 5);
         due("(10 + 20) / 3", x.meet(0, 20), 10);
@@ -395,7 +331,7 @@ public final class Promises {
     }
 
     private static void make() {
-        promise = 10;
+        heading = "promise 10";
         SingleCopy x = of(PAPER);
         due("make(3)", x.make(3), 3);
         due("make(4)", x.make(4), 7);
@@ -414,7 +350,7 @@ public final class Promises {
     }
 
     private static void drift() {
-        promise = 11;
+        heading = "promise 11";
         SingleCopy x = of(PAPER);
         SingleCopy y = of(PAPER);
         long seed = 4711;
@@ -451,35 +387,26 @@ public final class Promises {
         due("drift(1)", x.drift(1), 61);
         due("no opinions", new SingleCopy().drift(1), NOT);
         due("outside ahead of not", new SingleCopy().drift(0), OUTSIDE);
-        x = of("r1 0;");
-        for (int i = 0; i < 1500; i++) {
-            x.drift(60);
-        }
-        due("90000 nights are not above 90000", x.night(0), NONE);
-        x.undo();
-        due("90000 nights are not above 90000, for drift", x.drift(1), 90001);
-        due("full", x.drift(1), FULL);
-        due("outside ahead of full", x.drift(61), OUTSIDE);
     }
 
     private static void undo() {
-        promise = 12;
+        heading = "promise 12";
         SingleCopy x = of(PAPER);
         due("none", x.undo(), NOT);
-        String[] looks = new String[5];
+        String[] looks = new String[4];
         x.seed(9);
-        looks[0] = look(x);
+        looks[0] = mind(x);
         x.night(3);
-        looks[1] = look(x);
+        looks[1] = mind(x);
         x.meet(0, 20);
-        looks[2] = look(x);
+        looks[2] = mind(x);
         x.make(3);
-        looks[3] = look(x);
+        looks[3] = mind(x);
         x.drift(7);
         int seed = x.seed(9);
         for (int i = 3; i >= 0; i--) {
             due("undo() " + i, x.undo(), i);
-            same("what was undone, " + i, x, looks[i]);
+            due("what was undone, " + i, mind(x), looks[i]);
         }
         due("no more", x.undo(), NOT);
         x.drift(7);
@@ -520,7 +447,7 @@ public final class Promises {
     }
 
     private static void thinks() {
-        promise = 13;
+        heading = "promise 13";
         SingleCopy x = of(PAPER);
         x.night(1);
         String before = look(x);
@@ -555,7 +482,7 @@ public final class Promises {
     }
 
     private static void soonest() {
-        promise = 14;
+        heading = "promise 14";
         SingleCopy x = of(PAPER);
         String before = look(x);
         soonestIs(x, 0, 0);
@@ -588,7 +515,7 @@ public final class Promises {
     }
 
     private static void cannot() {
-        promise = 15;
+        heading = "promise 15";
         due("no opinions", new SingleCopy().cannot(), 0);
         due("all by two nights", of(CHAIN).cannot(), 0);
         due("one by none", of("r1 9,10,0,0;f3 18 9 0 0;h9;").cannot(), 4);
@@ -608,7 +535,7 @@ public final class Promises {
     }
 
     private static void least() {
-        promise = 16;
+        heading = "promise 16";
         SingleCopy x = of(CHAIN);
         String before = look(x);
         due("least(3, 0)", x.least(3, 0), 9);
@@ -649,7 +576,7 @@ public final class Promises {
     }
 
     private static void rivals() {
-        promise = 17;
+        heading = "promise 17";
         SingleCopy x = of(PAPER);
         String before = look(x);
         due("rivals(0, 1)", x.rivals(0, 1), 13);
@@ -682,7 +609,7 @@ public final class Promises {
     }
 
     private static void shun() {
-        promise = 18;
+        heading = "promise 18";
         SingleCopy x = of(PAPER);
         String before = look(x);
         due("shun(1, 0)", x.shun(1, 0), 0);
@@ -709,7 +636,7 @@ public final class Promises {
     }
 
     private static void holds() {
-        promise = 19;
+        heading = "promise 19";
         SingleCopy x = new SingleCopy();
         due("holds(0, 100)", x.holds(0, 100), 1000000000);
         due("holds(1, 100)", x.holds(1, 100), 0);
@@ -738,7 +665,7 @@ public final class Promises {
     }
 
     private static void worn() {
-        promise = 20;
+        heading = "promise 20";
         due("no facts", new SingleCopy().worn(), 0);
         SingleCopy x = of("r3 10;f0 9 9 0 0;f0 10 9 0 0;f0 7 9 0 0;f0 9 9 0 3;f0 18 0 20 0;");
         due("what never moved", x.worn(), 9);
@@ -757,7 +684,7 @@ public final class Promises {
     }
 
     private static void thought() {
-        promise = 21;
+        heading = "promise 21";
         SingleCopy x = of(PAPER);
         due("thought(3, 0)", x.thought(3, 0), UNKNOWN);
         due("thought(-1, 0)", x.thought(-1, 0), UNKNOWN);
@@ -793,7 +720,7 @@ public final class Promises {
     }
 
     private static void leftOut() {
-        promise = 22;
+        heading = "promise 22";
         leftOutIs(new SingleCopy(), 0, 0);
         leftOutIs(of("r1 5;"), 0, 0, 0);
         SingleCopy x = of(PAPER);
@@ -814,7 +741,7 @@ public final class Promises {
     }
 
     private static void strengths() {
-        promise = 23;
+        heading = "promise 23";
         SingleCopy x = of(PAPER);
         due("nothing thought", x.strengths(0, 1), (1 << 19) - 1);
         x.thought(0, 13);
@@ -852,7 +779,7 @@ public final class Promises {
     }
 
     private static void write() {
-        promise = 24;
+        heading = "promise 24";
         SingleCopy x = of(PAPER);
         due("write(3, 0)", x.write(3, 0), UNKNOWN);
         due("write(-1, 0)", x.write(-1, 0), UNKNOWN);
@@ -875,7 +802,7 @@ public final class Promises {
     }
 
     private static void tear() {
-        promise = 25;
+        heading = "promise 25";
         SingleCopy x = of(PAPER);
         due("nothing", x.tear(), 0);
         x.thought(0, 1);
@@ -889,7 +816,7 @@ public final class Promises {
     }
 
     private static void judge() {
-        promise = 26;
+        heading = "promise 26";
         SingleCopy x = of(PAPER);
         due("an empty book", x.judge(), NONE);
         x.write(2, 3);
@@ -906,7 +833,7 @@ public final class Promises {
     }
 
     private static void seed() {
-        promise = 27;
+        heading = "promise 27";
         SingleCopy x = new SingleCopy();
         due("at first", x.seed(2147483647), 0);
         due("the greatest", x.seed(0), 2147483647);
@@ -919,7 +846,7 @@ public final class Promises {
     }
 
     private static void keep() {
-        promise = 28;
+        heading = "promise 28";
         SingleCopy x = of(PAPER);
         x.night(1);
         due("not an image", x.keep(2), UNKNOWN);
@@ -944,7 +871,7 @@ public final class Promises {
     }
 
     private static void goBack() {
-        promise = 29;
+        heading = "promise 29";
         SingleCopy x = of(PAPER);
         due("not kept", x.goBack(0), NOT);
         due("not an image", x.goBack(2), UNKNOWN);
